@@ -386,20 +386,18 @@ public final class TickBound {
         if (paths.greatest < 0) {
             return paths.greatest;
         }
+        // More locked lines never make a bound greater. So the least is reached with as many as may be, and where no set
+        // of some size reaches it, no lesser one does.
         int of = now.program.toldLines(LOCKS_MOST);
-        int best = 0;
-        int least = boundIf(0, now.machine[MISS]);
-        // The sets inside "of", by rising bits: each is the one before with a 1 carried through the gaps.
-        int set = 0;
-        for (int i = 1; i < 1 << Integer.bitCount(of); i++) {
-            set = (set - of) & of;
-            if (Integer.bitCount(set) <= k) {
-                int bound = boundIf(set, now.machine[MISS]);
-                if (bound < least || bound == least && Integer.bitCount(set) < Integer.bitCount(best)) {
-                    least = bound;
-                    best = set;
-                }
+        int size = Math.min(k, Integer.bitCount(of));
+        int best = bestLocks(of, size, 0);
+        int least = boundIf(best, now.machine[MISS]);
+        for (int fewer = size - 1; fewer >= 0; fewer--) {
+            int set = bestLocks(of, fewer, least);
+            if (boundIf(set, now.machine[MISS]) > least) {
+                break;
             }
+            best = set;
         }
         return what == 0 ? least : best;
     }
@@ -762,6 +760,25 @@ public final class TickBound {
         paths.solve();
         analysisGoes();
         return paths.greatest;
+    }
+
+    /** Of the sets of a size inside another one the first by bits that has the least bound, or one that is low enough. */
+    private int bestLocks(int of, int size, int enough) {
+        int best = 0;
+        int least = Integer.MAX_VALUE;
+        int set = 0;
+        for (int i = 0; i < 1 << Integer.bitCount(of) && least > enough; i++) {
+            if (Integer.bitCount(set) == size) {
+                int bound = boundIf(set, now.machine[MISS]);
+                if (bound < least) {
+                    least = bound;
+                    best = set;
+                }
+            }
+            // The next one by bits: a 1 is carried through the places that are not in "of".
+            set = (set - of) & of;
+        }
+        return best;
     }
 
     private boolean someBelowZero(int first, int end) {
@@ -1517,12 +1534,6 @@ public final class TickBound {
             sets = state.machine[SETS];
             remembers = state.remembers();
             locked = lockedLines;
-            settleLines();
-            settleCosts(miss);
-            settleFactors();
-        }
-
-        private void settleLines() {
             Arrays.fill(ages, 0);
             Arrays.fill(ages, 0, LINES, remembers);
             Arrays.fill(may, 0);
@@ -1533,6 +1544,8 @@ public final class TickBound {
                     again |= passOn(k);
                 }
             }
+            settleCosts(miss);
+            settleFactors();
         }
 
         /** Brings what is behind an order to where its edges lead: whether that changed anything there. */
@@ -1644,6 +1657,8 @@ public final class TickBound {
      */
     private static final class Paths {
         static final int NO_WAY = -1;
+        /** In the place of a weight: no turn, a turn that is never taken. */
+        static final int FREE = 0, NEVER = -1;
 
         /** The bound, or why there is none. */
         int greatest = NONE;
@@ -1653,7 +1668,7 @@ public final class TickBound {
         /** Bits of orders, and of the end, that can be come to. */
         int reached = 0;
         final int[] weight = new int[EDGES_MOST];
-        /** Of each mix, of each order and the end: the greatest sum from there on. Made when first needed: many objects never ask. */
+        /** Of each mix, of each order and the end: the greatest sum from there on. Many objects never need it. */
         int[] best = null;
 
         Paths(Program itsProgram, int[] itsEdgeCost) {
@@ -1718,13 +1733,15 @@ public final class TickBound {
             return false;
         }
 
-        /** Weights of all turns that have a number; more mixes than can be held are not counted on. */
+        /** Of all turns that have a number, wherever they are; behind more mixes than can be held it is no use to go on. */
         private void weighTurns() {
             mixes = 1;
             for (int e = 0; e < program.edgeCount && mixes <= MIXES_MOST; e++) {
-                if (program.number[e] != NONE) {
+                int number = program.number[e];
+                weight[e] = program.isTurn(e) ? NEVER : FREE;
+                if (number > 0) {
                     weight[e] = mixes;
-                    mixes *= program.number[e] + 1;
+                    mixes *= number + 1;
                 }
             }
         }
@@ -1734,7 +1751,8 @@ public final class TickBound {
             best[row + program.size] = 0;
             for (int k = program.size - 1; k >= 0; k--) {
                 int most = NO_WAY;
-                for (int e = program.firstEdge[k]; isReached(k) && e < program.firstEdge[k + 1]; e++) {
+                int end = isReached(k) ? program.firstEdge[k + 1] : 0;
+                for (int e = program.firstEdge[k]; e < end; e++) {
                     most = Math.max(most, sumBy(mix, e));
                 }
                 best[row + k] = most;
@@ -1743,7 +1761,7 @@ public final class TickBound {
 
         /** The greatest sum that begins with an edge, NO_WAY without one. */
         private int sumBy(int mix, int e) {
-            int rest = mixBehind(mix, e);
+            int rest = weight[e] == FREE ? mix : mixBehind(mix, e);
             if (rest < 0) {
                 return NO_WAY;
             }
@@ -1753,11 +1771,11 @@ public final class TickBound {
 
         /** The mix behind an edge; -1: it may not be taken any more. */
         private int mixBehind(int mix, int e) {
-            if (!program.isTurn(e)) {
+            if (weight[e] == FREE) {
                 return mix;
             }
             int number = program.number[e];
-            if (number < 1 || weight[e] < 1) {
+            if (weight[e] == NEVER || number < 1) {
                 return -1;
             }
             return mix / weight[e] % (number + 1) > 0 ? mix - weight[e] : -1;

@@ -38,6 +38,7 @@ public final class TickBound {
     private static final int SHEETS = 4, SLOTS = 6, SHEET_MOST = 32;
     private static final int WAIT_MOST = 60;
     private static final int PROVED_MOST = 2000000000;
+    private static final int ABOVE_BOUNDS = 2000000000;
 
     /** In the place of a told line: a load whose line is not told, an order that asks none. */
     private static final int LINE_OPEN = -1, LINE_NONE = -2;
@@ -765,7 +766,7 @@ public final class TickBound {
     /** Of the sets of a size inside another one the first by bits that has the least bound, or one that is low enough. */
     private int bestLocks(int of, int size, int enough) {
         int best = 0;
-        int least = Integer.MAX_VALUE;
+        int least = ABOVE_BOUNDS;
         int set = 0;
         for (int i = 0; i < 1 << Integer.bitCount(of) && least > enough; i++) {
             if (Integer.bitCount(set) == size) {

@@ -285,8 +285,19 @@ public final class ModelTest {
         }
     }
 
+    /** No run that is kept is later than the bound, and no bound greater than what own factors prove. */
+    private void neverLater() {
+        int bound = call("bound");
+        int shown = x.shown(4, 0);
+        int proved = x.proves();
+        if (bound >= 0 && shown > bound || bound >= 0 && proved >= 0 && proved < bound) {
+            wrong++;
+            System.out.println("seed " + seed + ": shown " + shown + ", bound " + bound + ", proved " + proved);
+        }
+    }
+
     private void askBounds() {
-        call("bound");
+        neverLater();
         for (int i = -1; i < 12; i++) {
             call("way", i);
         }
@@ -384,21 +395,41 @@ public final class ModelTest {
         }
     }
 
-    /** Many told lines, few ways: what is locked best hangs on the cache alone. */
-    private void loads() {
+    /** Many lines, few ways: what the cache lets go, and what is locked best, is seen best here. */
+    private void loads(boolean locks) {
         tellMachine(true);
-        int many = from(6, 20);
+        tellText(part(0) + " " + part(2) + " ways " + (once(3) ? 2 : 4));
+        call("machine");
+        int many = from(6, 24);
+        int far = from(4, 19);
         for (int k = 0; k < many; k++) {
-            boolean branch = once(5);
+            boolean branch = once(6);
             call("order", branch ? 3 : from(1, 2), from(0, 3), branch ? from(0, many) : once(12) ? from(0, 3) : 4,
-                    branch ? 2 : from(0, 19));
+                    branch ? 2 : from(0, far));
         }
         for (int e = 0; e < x.edges(); e++) {
             if (x.edge(e, 2) == 1) {
                 call("turns", e, from(0, 2));
             }
         }
-        for (int k = 0; k <= 8; k++) {
+        for (int i = 0; i < 3; i++) {
+            call("memory", from(0, far), from(0, 4));
+            call("run", from(0, 3));
+            for (int what = 0; what <= 12; what++) {
+                call("ran", what);
+            }
+            for (int step = 0; step <= Math.min(80, x.ran(1)); step++) {
+                call("step", step, 1);
+            }
+        }
+        for (int k = 0; k < many; k++) {
+            call("told", k, 7);
+            for (int line = 0; line <= far / 2; line++) {
+                call("age", k, line);
+            }
+        }
+        neverLater();
+        for (int k = 0; locks && k <= 8; k++) {
             call("locks", k, 0);
             call("locks", k, 1);
         }
@@ -440,9 +471,7 @@ public final class ModelTest {
         int first = args.length > 2 ? Integer.parseInt(args[2]) : 0;
         for (int seed = first; seed < first + runs; seed++) {
             new ModelTest(seed).all();
-            if (seed % 50 == 0) {
-                new ModelTest(seed).loads();
-            }
+            new ModelTest(seed).loads(seed % 50 == 0);
         }
         System.out.println(calls + " calls, " + wrong + " answers are not the model's");
         if (wrong != 0) {

@@ -593,6 +593,15 @@ public final class BoundSentencesTest extends Sentences {
         loads("ways 1", 8, 7, 8, 6, 8, 5, 8, 4, 8, 3, 8, 2, 8, 1, 8, 0, 8);
         due(1, x.locks(1, 1));
         due(0xff, x.locks(8, 1));
+        // Loads to which nothing leads tell lines, too: they take the place of one that would be of use.
+        loads("", 8);
+        x.order(CALL, 0, 28, 0);
+        for (int line = 0; line < 8; line++) {
+            due(3, x.locks(8, 0));
+            x.order(LOAD, 1, 4, 2 * line);
+        }
+        due(13, x.locks(8, 0));
+        due(0, x.locks(8, 1));
         // Lines that are not told are none of the 8.
         loads("", 8, 7, 6, 5, 4, 3, 2, 1);
         due(0x1fe, x.locks(8, 1));

@@ -95,6 +95,72 @@ public final class EdgeSentencesTest extends Sentences {
         due(29, x.told(27, 5));
     }
 
+    /** All that is asked of edges can be asked of as many as can be. */
+    void p17_allOfAsManyAsCanBe() {
+        for (int k = 0; k < 28; k++) {
+            x.order(BACK, 0, 0, 0);
+            x.places(k, ALL_PLACES);
+        }
+        // Places that were behind the last order have become orders.
+        due(812, x.edges());
+        due(NONE, x.bound());
+        due(NONE, x.proves());
+        for (int k = 0; k < 28; k++) {
+            for (int to = 0; to <= k; to++) {
+                x.turns(29 * k + to, 0);
+            }
+        }
+        due(406, x.count(2));
+        due(56, x.bound());
+        due(56, x.proves());
+        due(56, x.factor(0));
+        due(2, x.factor(27));
+        due(27, x.way(27));
+        due(NONE, x.way(28));
+        due(2, x.edge(811, 4));
+        due(2, x.told(27, 6));
+        due(2, x.shares(810));
+        due(28, x.blocks());
+        due(NONE, x.age(27, 0));
+        due(0, x.may(27, 0));
+        due(3, x.run(29));
+        due(0, x.run(28));
+        due(2, x.shown(5, 0));
+        due(28, x.shown(5, 1));
+    }
+
+    /** Of more edges that were there before nothing is left. */
+    void p17_nothingIsLeftOfEdgesThatWere() {
+        for (int number = 0; number < 2; number++) {
+            for (int many = 1; many < 28; many += 3) {
+                fresh();
+                for (int k = 0; k < 28; k++) {
+                    x.order(CALL, 0, 1, 0);
+                }
+                for (int k = 1; k < 28; k++) {
+                    x.turns(k, number == 0 ? NONE : 9);
+                }
+                x.clear();
+                plainOrders(many);
+                due(many, x.edges());
+                due(0, x.count(1));
+                due(0, x.count(2));
+                due(1, x.blocks());
+                due(many, x.bound());
+                due(many, x.proves());
+                due(many, x.factor(0));
+                due(BAD, x.edge(many, 0));
+            }
+        }
+        // Nor of what they led to: nothing leads to order 2.
+        fresh();
+        orders(BRANCH, 0, 2, 0, CALL, 0, 2, 0, CALL, 0, 0, 0);
+        due(NONE, x.bound());
+        x.clear();
+        orders(CALL, 0, 28, 0, ORDER, 0, 0, 0, CALL, 0, 2, 0);
+        due(2, x.bound());
+    }
+
     // ---- 18: Of an EDGE: what 0 from, 1 to, 2 whether it is a TURN, 3 its number, 4 COST. BAD.
 
     /** "numbered from 0 by ORDERS, of one by where they lead" */
@@ -476,6 +542,20 @@ public final class EdgeSentencesTest extends Sentences {
         agesAre(2, NONE, 0);
     }
 
+    /** "made less as long as there is something to make less": four rounds of 26 orders, and one more to tell all of them. */
+    void p22_asLongAsThereIsSomethingToMakeLess() {
+        machine("ways 4");
+        orders(LOAD, 1, 4, 0, CALL, 1, 27, 0, LOAD, 1, 1, 0, CALL, 1, 27, 0, CALL, 1, 2, 0);
+        for (int k = 5; k < 28; k++) {
+            x.order(CALL, 1, k - 1, 0);
+        }
+        due(0, x.age(1, 0));
+        for (int k = 2; k < 28; k++) {
+            due(NONE, x.age(k, 0));
+        }
+        due(2, x.told(2, 7));
+    }
+
     /** "ORDERS to which nothing leads keep that" (all LINES of AGE 0), locked or not. */
     void p22_ordersToWhichNothingLeads() {
         x.lock(3, 1);
@@ -544,6 +624,10 @@ public final class EdgeSentencesTest extends Sentences {
             due(0, x.may(1, line));
             due(1, x.may(2, line));
         }
+        // A choice: all are all, locked ones too.
+        x.lock(6, 1);
+        due(1, x.may(2, 6));
+        due(0, x.may(1, 6));
     }
 
     /** "where EDGES meet all of all; the least such" */

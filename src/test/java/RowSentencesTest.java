@@ -145,7 +145,7 @@ public final class RowSentencesTest extends Sentences {
         due(60, x.count(5));
         due(proved, x.check());
         // One turn more, and they can never be as many.
-        x.clear();
+        fresh();
         plainOrders(22);
         for (int k = 22; k < 27; k++) {
             x.order(BRANCH, 0, k, 0);

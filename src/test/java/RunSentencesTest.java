@@ -360,6 +360,21 @@ public final class RunSentencesTest extends Sentences {
         }
     }
 
+    /** A choice: to b and on are two things for the guesser, even where they lead to one order. */
+    void p13_toBIsNotOnForTheGuesser() {
+        orders(BRANCH, 0, 1, 5, ORDER, 1, 1, 1);
+        x.run(4);
+        due(1, x.ran(4));
+        due(4, ticksOf(0));
+        x.run(5);
+        due(0, x.ran(4));
+        machine("guess always");
+        x.run(4);
+        due(0, x.ran(4));
+        x.run(5);
+        due(1, x.ran(4));
+    }
+
     /** "LAST: as it went last in this RUN (on, if never)" */
     void p13_last() {
         machine("guess last wrong 5");
@@ -689,6 +704,19 @@ public final class RunSentencesTest extends Sentences {
         due(1, x.ran(10));
     }
 
+    /** A choice: the turn that the 600th order takes is taken, though nothing comes behind it. */
+    void p14_keptByTheTurnOfThe600thOrder() {
+        orders(ORDER, 1, 1, 0, ORDER, 0, 0, 1, BRANCH, 0, 1, 300, CALL, 2, 0, 0);
+        x.turns(4, 0);
+        due(4, x.run(1));
+        due(3, x.step(599, 0));
+        due(0, x.ran(11));
+        due(0, x.ran(10));
+        due(4, x.run(0));
+        due(2, x.ran(11));
+        due(1, x.ran(10));
+    }
+
     /** "(1, 0; by the numbers as they were then)" */
     void p14_keptByTheNumbersAsTheyWereThen() {
         loop();
@@ -740,14 +768,14 @@ public final class RunSentencesTest extends Sentences {
             y -> y.work(1, 1), y -> y.answer(0), y -> y.fits(), y -> y.sheet(0, 0, 1), y -> y.mark(0, 0, 1),
             y -> y.pour(0, 0, 5, 1), y -> y.copy(0, 0, 0, 1, 1), y -> y.lay(0, 0, 0), y -> y.ask(0, 0), y -> y.item(1, 0),
             y -> y.tell(1), y -> y.check(), y -> y.record(), y -> y.keep(), y -> y.count(0)};
-        TickBound with = rich();
         for (Call call : calls) {
-            TickBound y = rich();
-            call.on(y);
+            TickBound without = rich();
+            TickBound with = rich();
+            call.on(with);
             for (int what = 0; what <= 12; what++) {
-                due(with.ran(what), y.ran(what));
+                due(without.ran(what), with.ran(what));
             }
-            due(with.step(5, 1), y.step(5, 1));
+            due(without.step(5, 1), with.step(5, 1));
         }
     }
 
